@@ -356,6 +356,9 @@ public final class ChangeHouse {
         Rows went = editsBehind.rowsAhead(editsAhead, p);
         Rows came = editsBehind.rows[p];
         int which = came.difference(went, left);
+        if (which == NONE) {
+            throw new NoSuchElementException();
+        }
         if (what == 1) {
             return which & 1;
         }
@@ -604,8 +607,8 @@ public final class ChangeHouse {
         final int[] ends = new int[TAPE_BYTES + 1];
         // A NAME's or VARIABLE's signs as one number, a NUMBER's value (one that is out of bounds: above BOUND).
         final long[] codes = new long[TAPE_BYTES + 1];
-        // A NAME's value as a WORD; NONE if it is none.
-        final long[] words = new long[TAPE_BYTES + 1];
+        // What a TOKEN stands for: a NAME's value as a WORD, the CELL that a VARIABLE is; NONE if there is none.
+        final long[] senses = new long[TAPE_BYTES + 1];
 
         void add(int four) {
             for (int shift = 24; shift >= 0; shift -= 8) {
@@ -655,14 +658,17 @@ public final class ChangeHouse {
             int to = from;
             for (; to < size; to++) {
                 char sign = bytes[to];
-                int digit = isSmall(sign) ? sign - 'a' + 1 : isDigit(sign) ? sign - '0' + 27 : sign == '_' ? 37 : 0;
+                int digit = isSmall(sign) ? sign - 'a' + 1
+                    : isDigit(sign) ? sign - '0' + 27
+                    : sign == '_' ? 37
+                    : 0;
                 if (digit == 0) {
                     break;
                 }
                 // Twelve digits to the base 38 fit into a long; longer NAMES are never looked up.
                 code = to - from < NAME_SIGNS ? code * 38 + digit : code;
             }
-            words[tokens] = wordOf(from, to - from);
+            senses[tokens] = wordOf(from, to - from);
             put(nameKind(from, to), from, to, code);
             return to;
         }
@@ -696,12 +702,16 @@ public final class ChangeHouse {
             int to = from;
             for (; to < size; to++) {
                 char sign = bytes[to];
-                int digit = isGreat(sign) ? sign - 'A' + 1 : isSmall(sign) ? sign - 'a' + 27 : isDigit(sign) ? sign - '0' + 53 : 0;
+                int digit = isGreat(sign) ? sign - 'A' + 1
+                    : isSmall(sign) ? sign - 'a' + 27
+                    : isDigit(sign) ? sign - '0' + 53
+                    : 0;
                 if (digit == 0) {
                     break;
                 }
                 code = to - from < VARIABLE_SIGNS ? code * 63 + digit : code;
             }
+            senses[tokens] = cellOf(from, to - from);
             put(VARIABLE, from, to, code);
             return to;
         }
@@ -779,10 +789,7 @@ public final class ChangeHouse {
             return length > WORD_SIGNS ? NONE : WORDS + code;
         }
 
-        /** The number of the CELL that a VARIABLE is; NONE if it is none. */
-        int cellOf(int token) {
-            int from = starts[token];
-            int length = lengthOf(token);
+        private int cellOf(int from, int length) {
             int column = bytes[from] - 'A';
             if (column >= COLUMNS || length < 2 || length > 3 || bytes[from + 1] == '0') {
                 return NONE;
@@ -1051,7 +1058,7 @@ public final class ChangeHouse {
                     return;
                 }
                 // It could still have become an ATOM: what is behind it is what can't stand.
-                if (tape.words[at] == NONE) {
+                if (tape.senses[at] == NONE) {
                     wrongAt(tape.starts[at + 1]);
                 }
             }
@@ -1162,7 +1169,7 @@ public final class ChangeHouse {
         }
 
         private long readValue() {
-            boolean word = tape.kinds[at] == NAME && tape.words[at] != NONE;
+            boolean word = tape.kinds[at] == NAME && tape.senses[at] != NONE;
             boolean minus = tape.kinds[at] == '-' && tape.digitBehind(at);
             if (minus) {
                 advance();
@@ -1170,17 +1177,16 @@ public final class ChangeHouse {
             if (!word && (tape.kinds[at] != NUMBER || tape.codes[at] > BOUND)) {
                 wrongAt(tape.starts[at]);
             }
-            long told = word ? tape.words[at] : tape.codes[at];
+            long told = word ? tape.senses[at] : tape.codes[at];
             advance();
             return minus ? -told : told;
         }
 
         private int readCellName() {
-            int start = tape.starts[at];
-            int cell = tape.kinds[at] == VARIABLE ? tape.cellOf(at) : NONE;
-            if (cell == NONE) {
-                wrongAt(start);
+            if (tape.kinds[at] != VARIABLE || tape.senses[at] == NONE) {
+                wrongAt(tape.starts[at]);
             }
+            int cell = (int) tape.senses[at];
             advance();
             return cell;
         }
@@ -1379,12 +1385,15 @@ public final class ChangeHouse {
         private int toldTwice() {
             int[] told = new int[NAMES];
             for (int i = 0; i < mentions; i++) {
-                int bit = 1 << kinds[i];
-                int rivals = kinds[i] == INPUT ? bit | 1 << HEAD : kinds[i] == OUTPUT ? bit : kinds[i] == HEAD ? 1 << INPUT : 0;
+                int kind = kinds[i];
+                int rivals = kind == INPUT ? 1 << INPUT | 1 << HEAD
+                    : kind == OUTPUT ? 1 << OUTPUT
+                    : kind == HEAD ? 1 << INPUT
+                    : 0;
                 if ((told[predicates[i]] & rivals) != 0) {
                     return places[i];
                 }
-                told[predicates[i]] |= bit;
+                told[predicates[i]] |= 1 << kind;
             }
             return NONE;
         }
@@ -2416,7 +2425,8 @@ public final class ChangeHouse {
             for (int r = 0; r < program.rules && reasonRule == NONE; r++) {
                 Rule rule = program.list[r];
                 if (rule.head == p) {
-                    boolean gives = rule.gather == NONE ? findWay(rule, now.rows, rank) : rank == 1 && gathersGiven(rule, now.rows);
+                    boolean gives = rule.gather == NONE ? findWay(rule, now.rows, rank)
+                        : rank == 1 && gathersGiven(rule, now.rows);
                     reasonRule = gives ? r : NONE;
                 }
             }
@@ -2638,29 +2648,26 @@ public final class ChangeHouse {
 
         private long worth(Formula text) {
             int height = 0;
-            // Steps go ahead alone, those of an if too.
             for (int i = 0; i < text.ops.length; i++) {
                 int op = text.ops[i] & 255;
-                long arg = text.args[i];
-                if (op == TEST) {
-                    height--;
-                    long told = stack[height];
+                int target = i;
+                if (op == JUMP) {
+                    target = (int) text.args[i] - 1;
+                } else if (op == TEST && height > 0) {
+                    long told = stack[height - 1];
+                    boolean error = told < -BOUND;
+                    height -= error ? 0 : 1;
                     // The step ahead of the third part leads to the end, for an ERROR as for the second part.
-                    if (told < -BOUND) {
-                        height++;
-                        i = (int) arg - 2;
-                    } else if (told == 0) {
-                        i = (int) arg - 1;
-                    }
-                } else if (op == JUMP) {
-                    i = (int) arg - 1;
-                } else if (op <= ROWS_MOST) {
-                    stack[height] = operand(op, text.ops[i] >> 8, arg);
+                    target = error ? (int) text.args[i] - 2 : told == 0 ? (int) text.args[i] - 1 : i;
+                } else if (op <= ROWS_MOST && height < STACK) {
+                    stack[height] = operand(op, text.ops[i] >> 8, text.args[i]);
                     height++;
-                } else {
+                } else if (op > JUMP && height > 1) {
                     height--;
                     stack[height - 1] = reckon(op, stack[height - 1], stack[height]);
                 }
+                // Steps lead ahead alone, those of an if too.
+                i = Math.max(i, target);
             }
             return stack[0];
         }
