@@ -2259,7 +2259,7 @@ public final class ChangeHouse {
             }
         }
 
-        /** The LITERALS whose rows must be of the level before, one after another; bit 0 for a rule that asks for none. */
+        /** The LITERALS whose rows must be of the level before, one after another; bit 0 if a rule asks for none. */
         private int leadersOf(Rule rule, int members, int level) {
             int own = 0;
             for (int l = 0; l < rule.literals; l++) {
@@ -2403,7 +2403,7 @@ public final class ChangeHouse {
             for (int p = 0; p < program.predicates; p++) {
                 boolean same = (changed >> p & 1) == 0 && facts[p].sameRanks(ahead[p]);
                 rows[p] = same ? ahead[p] : facts[p] == made[p] ? made[p].frozen() : facts[p];
-                moved += rows[p].differing(ahead[p]);
+                moved += same ? 0 : rows[p].differing(ahead[p]);
             }
             for (int q = 0; taken && q < old.program.predicates; q++) {
                 moved += program.like(old.program, q) == NONE ? old.rows[q].size : 0;
@@ -2553,6 +2553,7 @@ public final class ChangeHouse {
             now = behind;
             behind.texts = ahead.texts;
             behind.cells = ahead.cells;
+            boolean used = false;
             for (int c = 0; c < CELLS; c++) {
                 if (line.cellTold[c]) {
                     if (behind.told == 0) {
@@ -2561,8 +2562,9 @@ public final class ChangeHouse {
                     behind.texts[c] = line.cellTexts[c];
                     behind.told++;
                 }
+                used |= behind.texts[c] != null;
             }
-            if (behind.told > 0 || changed != 0 || behind.taken == 1) {
+            if (behind.told > 0 || used && (changed != 0 || behind.taken == 1)) {
                 behind.cells = new long[CELLS];
                 cells = behind.cells;
                 findRings();
