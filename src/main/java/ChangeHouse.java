@@ -2382,14 +2382,17 @@ public final class ChangeHouse {
             return kind == LEAST ? Math.min(a, b) : kind == MOST ? Math.max(a, b) : a + b;
         }
 
+        /** A sum out of bounds gives no row, though as a long it may look like a word. */
+        private static boolean isInBounds(Rule rule, long told) {
+            return rule.gatherKind != SUM || told >= -BOUND && told <= BOUND;
+        }
+
         private boolean giveGroups(Rule rule) {
             for (int i = 0; i < loose.size; i++) {
                 loose.read(i, floor);
                 loose.read(i, given);
-                long told = gathered[loose.ranks[i]];
-                boolean out = rule.gatherKind == SUM && (told > BOUND || told < -BOUND);
-                given[rule.gather] = told;
-                if (!out && !give(rule.head, given)) {
+                given[rule.gather] = gathered[loose.ranks[i]];
+                if (isInBounds(rule, given[rule.gather]) && !give(rule.head, given)) {
                     return false;
                 }
             }
@@ -2493,7 +2496,7 @@ public final class ChangeHouse {
                     found = true;
                 }
             }
-            return found && all == given[rule.gather];
+            return found && isInBounds(rule, all) && all == given[rule.gather];
         }
     }
 

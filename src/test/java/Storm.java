@@ -184,6 +184,9 @@ final class Storm {
                 + " w(X,Y,sum(Z)) :- b(X,_,Y,Z). w(X,X,0) :- c(X).",
             "input e/2. d(X,0) :- e(X,_). d(Y,N+1) :- d(X,N), e(X,Y), N < " + of("3", "9", "1000000") + ". m(X,least(N)) :- d(X,N). output m.",
             "input x/1. q(X*X) :- x(X). q(X*Y) :- q(X), q(Y), X != Y. r(X/Y) :- q(X), x(Y). r(X%Y) :- x(X), x(Y). output r.",
+            // The numbers of big sum up to what the word a is as a long.
+            "input out/1. input w/1. output p. big(1,1000000000000). big(2,1000000000000). big(3,10460353203). big(4,a)."
+                + " p(sum(V)) :- big(X,V), not out(X). p(Y) :- w(Y). p(count()) :- w(X), big(_,X). p(most(V)) :- big(X,V), out(X).",
             "input e/2. a(X,Y) :- e(X,Y). b(X) :- a(X,_). a(X,Z) :- b(X), c(Z). c(Z) :- a(_,Z), Z != 3. c(Z) :- b(Z). a(1,count()) :- e(_,_). output a.");
     }
 

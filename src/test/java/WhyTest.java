@@ -8,6 +8,7 @@ public final class WhyTest {
         leastRuleAndWay();
         twoRings();
         gathering();
+        sumsOutOfBounds();
         anyValue();
         anyOfTheOwnRing();
         pastAndBranch();
@@ -87,6 +88,23 @@ public final class WhyTest {
         all("c", h, 1, "1:0(0) 2:2(7) 1:3() 1:1() 1:0(2) 1:3() 2:2(5) 1:1() 2:2(2)");
         House.due("of a GATHERING rule no WAY", h.x.reason(1, 2, 1), NONE);
         House.due("of a GATHERING rule the rule", h.x.reason(1, 2, 0), 3);
+    }
+
+    /** As a long a word is above all numbers: a sum out of bounds may look like one, and gives no row all the same. */
+    private static void sumsOutOfBounds() {
+        House h = new House();
+        h.start("input q/2. input r/1. p(sum(V)) :- q(X,V). p(Y) :- r(Y).",
+            "+q(1,1000000000000). +q(2,1000000000000). +q(3,10460353203). +r(a).");
+        House.due("the word alone", h.rows(2), "a");
+        all("a sum that looks like it is not its REASON", h, 2, "1:1(0)");
+        h.round("-q(1,1000000000000). -q(2,1000000000000). +r(10460353203).");
+        House.due("the number and the word", h.rows(2), "10460353203 a");
+        all("within bounds the sum is the REASON, the least rule", h, 2, "1:0() 1:1(1)");
+        House g = new House();
+        g.start("input q/2. input r/2. p(X,sum(V)) :- q(X,V). p(X,most(V)) :- r(X,V). p(X,V) :- r(X,V).",
+            "+q(1,1000000000000). +q(1,999999999999). +q(1,10460353204). +r(1,a). +r(1,0). +q(2,1000000000000). +q(2,a). +r(2,1000000000000).");
+        House.due("of each group", g.rows(2), "1,0 1,a 2,1000000000000");
+        all("most gives the word, the sum doesn't; the edge is within bounds", g, 2, "1:2(0) 1:1() 1:0()");
     }
 
     private static void anyValue() {
