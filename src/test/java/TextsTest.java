@@ -1,7 +1,5 @@
 /** Promises 4 (program), 5 (place), 6 (change), 7 (cell), 15 (query): what is WRONG, what has a FAULT, and where. */
-public final class TextsTest {
-    private static final String LONG_NAME = "abcdefghijkl";
-
+public final class TextsTest extends Marks {
     public static void main(String[] args) {
         rightPrograms();
         wrongTokens();
@@ -20,41 +18,6 @@ public final class TextsTest {
         formulaTokens();
         placeIsOfTheLatest();
         House.end();
-    }
-
-    // A ^ in a text marks the place, and is no part of it.
-    private static String plain(String marked) {
-        return marked.replace("^", "");
-    }
-
-    private static int markOf(String marked) {
-        int at = marked.indexOf('^');
-        if (at < 0) {
-            throw new IllegalStateException("no mark in " + marked);
-        }
-        return at;
-    }
-
-    private static void rightProgram(String text, int rules) {
-        House h = new House();
-        House.due("program " + text, h.program(text), rules);
-        House.due("place of " + text, h.x.place(), ChangeHouse.NONE);
-    }
-
-    private static void wrongProgram(String marked) {
-        House h = new House();
-        House.due("program " + marked, h.program(plain(marked)), -1 - markOf(marked));
-        House.due("place of " + marked, h.x.place(), ChangeHouse.NONE);
-        House.due("round behind " + marked, h.x.round(), 0);
-        House.due("editions behind " + marked, h.x.count(7), 0);
-    }
-
-    private static void faultyProgram(int kind, String marked) {
-        House h = new House();
-        House.due("program " + marked, h.program(plain(marked)), -5000 - kind);
-        House.due("place of " + marked, h.x.place(), markOf(marked));
-        h.x.round();
-        House.due("editions behind " + marked, h.x.count(7), 0);
     }
 
     private static void rightPrograms() {
@@ -408,16 +371,6 @@ public final class TextsTest {
         House.due("change of the program again", h.change("+e(1)."), 1);
     }
 
-    private static void wrongChange(House h, String marked) {
-        House.due("change " + marked, h.change(plain(marked)), -1 - markOf(marked));
-        House.due("place of " + marked, h.x.place(), ChangeHouse.NONE);
-    }
-
-    private static void faultyChange(House h, int kind, String marked) {
-        House.due("change " + marked, h.change(plain(marked)), -5000 - kind);
-        House.due("place of " + marked, h.x.place(), markOf(marked));
-    }
-
     private static void queryTexts() {
         House h = new House();
         h.start("input e/1. input f/2. p(X) :- e(X), f(X,_).", "+e(1). +e(a). +f(1,2).");
@@ -453,16 +406,6 @@ public final class TextsTest {
         h.program("input g/1.");
         House.due("a query of the program", h.query("e(X)."), 2);
         faultyQuery(h, 2, "^g(X).");
-    }
-
-    private static void wrongQuery(House h, String marked) {
-        House.due("query " + marked, h.query(plain(marked)), -1 - markOf(marked));
-        House.due("place of " + marked, h.x.place(), ChangeHouse.NONE);
-    }
-
-    private static void faultyQuery(House h, int kind, String marked) {
-        House.due("query " + marked, h.query(plain(marked)), -5000 - kind);
-        House.due("place of " + marked, h.x.place(), markOf(marked));
     }
 
     private static void rightCells() {
@@ -566,14 +509,6 @@ public final class TextsTest {
         wrongCell("A1=if((1^,2),3,4)");
         wrongCell("A1=1^=1");
         wrongCell("A1=1^:2");
-    }
-
-    private static void wrongCell(String marked) {
-        House h = new House();
-        h.program("p(");
-        House.due("cell " + marked, h.cell(plain(marked)), -1 - markOf(marked));
-        h.x.round();
-        House.due("A1 behind " + marked, h.cellAt("A1"), "EMPTY");
     }
 
     private static void formulaTokens() {
