@@ -1546,7 +1546,7 @@ public final class ChangeHouse {
                     bound = boundBehind(best, bound);
                 }
             }
-            int asked = gather == NONE || gatherKind == COUNT ? 0 : 1 << gatherVariable;
+            int asked = 0;
             for (int c = 0; c < items; c++) {
                 asked |= variablesOf(c);
             }

@@ -312,7 +312,7 @@ public final class EdgesOfLinesTest extends Marks {
         h.start("input e/2 key 1. q(X):-e(X,_).", "");
         h.change("+e(9,9).");
         h.x.line(2);
-        h.start("z(1). z(2).", "");
+        h.start("y(1). x(1). z(1). z(2).", "");
         h.cell("A1=7");
         h.cell("B1=7");
         h.x.round();
@@ -545,6 +545,25 @@ public final class EdgesOfLinesTest extends Marks {
         House.due("so the FORK of line 2 is lost", h.x.merge(2), -1);
         h.x.line(3);
         House.due("line 0 has one of line 3", h.x.merge(0), 0);
+        // Line 0 may be a branch as well.
+        House z = new House();
+        z.x.line(1);
+        z.start("input f/1.", "");
+        z.round("+f(1).");
+        z.x.branch(0, 2);
+        House.due("line 0's FORK of line 1", z.x.merge(0), 0);
+        z.x.back(1);
+        House.due("is lost by BACK", z.x.merge(0), -1);
+        z.round("+f(1).");
+        House.due("for good", z.x.merge(0), -1);
+        z.x.back(1);
+        z.x.branch(0, 1);
+        House.due("a new one", z.x.merge(0), 0);
+        z.x.line(2);
+        z.x.branch(1, 0);
+        z.x.line(1);
+        z.start("input f/1.", "");
+        House.due("is lost when line 1 becomes a BRANCH", z.x.merge(0), -1);
         // A line's own FORK isn't lost when another line becomes a BRANCH.
         House g = ready();
         g.x.branch(1, 1);

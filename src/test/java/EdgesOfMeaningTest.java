@@ -34,6 +34,7 @@ public final class EdgesOfMeaningTest extends Marks {
         limitOfARule();
         limitOfARing();
         limitOfAGatheringRule();
+        limitOfRowsNotOfGroups();
         limitOfEachPredicate();
         growsWithoutEnd();
         House.end();
@@ -183,6 +184,8 @@ public final class EdgesOfMeaningTest extends Marks {
         gives("brackets around a VARIABLE alone don't matter", "p(X,Y):-((((X))))=3,4=(Y).", "3,4");
         gives("BOUND by an ATOM behind it", "p(Y):-Y=X+1,q(X). q(4).", "5");
         gives("without VARIABLES on the other side", "p(X):-X=a.", "a");
+        gives("by the least and the greatest value", "p(X):-X=-" + MOST + ". p(X):-X=" + MOST + ". p(X):-zzzzzzzz=X.", "-" + MOST + " " + MOST + " zzzzzzzz");
+        gives("by what is out of bounds", "p(1):-X=-" + MOST + "-1. p(1):-X=" + MOST + "+1.", "");
         faultyProgram(4, "p(1):-^X=X.");
         faultyProgram(4, "p(1):-^X=Y,Y=X.");
         faultyProgram(4, "p(1):-^X=X+1.");
@@ -501,8 +504,30 @@ public final class EdgesOfMeaningTest extends Marks {
             House h = new House();
             House.due("100 by " + gather, h.start(ten + "p(X,Y," + gather + "):-t(X),t(Y),Z=X.", ""), 110);
             House.due("101 by " + gather, h.start(ten + "p(X,Y," + gather + "):-t(X),t(Y),Z=X. p(X,X,X):-e(X).", "+e(-1)."), -1);
-            House.due("101 groups by " + gather, h.start("input e/1. p(X," + gather + "):-e(X),Z=X. p(Y,0):-e(X),Y=X+1000,X<1.", rows(0, 100)), -1);
+            House.due("100 rows and one of it", h.start("input e/1. p(X,7):-e(X). p(Y," + gather + "):-e(X),Z=7,Y=X+1000,X<0.", rows(0, 99) + "+e(-1)."), -1);
+            // X * 10 + Y is 0 .. 109.
+            String groups = ten + "t(10). p(G," + gather + "):-t(X),t(Y),Y<10,G=X*10+Y,Z=1,G<";
+            House.due("99 groups by " + gather, new House().start(groups + "99.", ""), 11 + 99);
+            House.due("100 groups by " + gather, new House().start(groups + "100.", ""), 11 + 100);
+            House.due("101 groups by " + gather, new House().start(groups + "101.", ""), -1);
+            House.due("110 groups by " + gather, new House().start(groups + "1000.", ""), -1);
         }
+    }
+
+    // A sum out of bounds gives no row, so there may be more groups than rows; the LIMIT is of rows.
+    private static void limitOfRowsNotOfGroups() {
+        String head = "n(0). n(X+1):-n(X),X<99. v(600000000000). v(600000000001). ";
+        // Of 10000 groups the sums of those with K % 100 = 0 are in bounds; G falls, so that the least groups come last.
+        House h = new House();
+        String inBounds = "n(X),n(Y),v(V),K=100*X+Y,G=9999-K,W=V/(1+1000000*(1-(K%100+99)/100))";
+        House.due("100 rows of 10000 groups", h.start(head + "p(G,sum(W)):-" + inBounds + ".", ""), 100 + 2 + 100);
+        House.due("the first", h.x.value(2, 0, 0) * 10000000 + h.x.value(2, 0, 1), 99L * 10000000 + 599999 + 599999);
+        House.due("the last", h.x.value(2, 99, 0), 9999);
+        for (int i = 0; i < 100; i++) {
+            House.due("row " + i, h.x.value(2, i, 0), 99 + 100 * i);
+        }
+        House.due("one more", h.start(head + "p(G,sum(W)):-" + inBounds + ". p(0,0).", ""), -1);
+        House.due("102 rows of 10000 groups", new House().start(head + "p(G,sum(W)):-n(X),n(Y),v(V),K=100*X+Y,G=9999-K,W=V/(1+1000000*(1-(K%99+98)/99)).", ""), -1);
     }
 
     // The LIMIT is of each predicate, not of all.

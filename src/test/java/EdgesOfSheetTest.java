@@ -28,7 +28,9 @@ public final class EdgesOfSheetTest extends Marks {
         allCellsInARing();
         workedByTexts();
         workedByValues();
+        workedByEachCell();
         workedByRows();
+        workedByEachWord();
         workedByEditions();
         workedOnce();
         pendingTexts();
@@ -362,6 +364,10 @@ public final class EdgesOfSheetTest extends Marks {
         House.due("at the lower bound", l.cellAt("B1"), "-" + MOST);
         House.due("one less", l.cellAt("B2"), "ERROR 3");
         House.due("on the way alone", l.cellAt("B3"), "-" + MOST);
+        House m = with("A1=-" + MOST, "A2=" + MOST, "B1=sum(A1:A1)", "B2=sum(A1:A2)", "B3=count(A1:A2)", "B4=A1", "B5=A1+0", "B6=zzzzzzzz", "B7=B6");
+        House.due("the least number is no ERROR", m.cellAt("B1") + " " + m.cellAt("B2") + " " + m.cellAt("B3"), "-" + MOST + " 0 2");
+        House.due("nor is it as an operand", m.cellAt("B4") + " " + m.cellAt("B5") + " " + m.x.sheet(0, 0, 0), "-" + MOST + " -" + MOST + " 1");
+        House.due("nor is the greatest word", m.cellAt("B6") + " " + m.cellAt("B7") + " " + m.x.sheet(1, 5, 0), "zzzzzzzz zzzzzzzz 1");
         House e = with("A1=" + MOST, "A2=" + MOST, "A3=a+1", "A4=count(nobody)", "B1=sum(A1:A4)", "B2=sum(A1:A2)+A3");
         House.due("an ERROR of a cell goes ahead", e.cellAt("B1"), "ERROR 2");
         House.due("but as an operand the sum's does", e.cellAt("B2"), "ERROR 3");
@@ -478,6 +484,7 @@ public final class EdgesOfSheetTest extends Marks {
         worth("if(-0,2,3)", "3");
         worth("if(a,2,3)", "2");
         worth("if(" + MOST + ",2,3)", "2");
+        worth("if(-" + MOST + ",2,3)", "2");
         worth("if(1,2,A4)", "2");
         worth("if(0,A4,3)", "3");
         worth("if(1,A4,3)", "ERROR 3");
@@ -593,6 +600,30 @@ public final class EdgesOfSheetTest extends Marks {
         dueWorked(h, "a cell beside it", 8, 8, 8, 3, 8, 9);
     }
 
+    /** Each of the 72 cells, read by one cell alone, by itself and in a range. */
+    private static void workedByEachCell() {
+        for (int c = 0; c < 72; c++) {
+            String reader = cell((c + 35) % 72);
+            String second = cell((c + 36) % 72);
+            String next = cell((c + 37) % 72);
+            House h = with(cell(c) + "=1", reader + "=" + cell(c) + "+1", second + "=sum(" + cell(c) + ":" + cell(c) + ")", next + "=" + cell((c + 1) % 72));
+            House.due(cell(c) + " is read", h.cellAt(reader) + h.cellAt(second) + h.cellAt(next), "210");
+            tell(h, cell(c) + "=5");
+            House.due(cell(c) + " is read again", h.cellAt(reader) + h.cellAt(second) + h.cellAt(next), "650");
+            House.due("WORKED by " + cell(c), h.worked(reader) * 100 + h.worked(second) * 10 + h.worked(next), 221);
+            tell(h, cell(c) + "=5");
+            House.due("not WORKED by " + cell(c), h.worked(reader) * 100 + h.worked(second) * 10 + h.worked(next), 221);
+            tell(h, cell((c + 1) % 72) + "=7");
+            House.due("WORKED by the next one alone", h.worked(reader) * 100 + h.worked(second) * 10 + h.worked(next), 222);
+            tell(h, cell(c) + "=" + second);
+            House.due("a ring", h.cellAt(cell(c)) + h.cellAt(second), "ERROR 1ERROR 1");
+            tell(h, second + "=if(1,7," + cell(c) + ")");
+            House.due("a ring by what is not looked at", h.cellAt(cell(c)) + h.cellAt(second), "ERROR 1ERROR 1");
+            tell(h, cell(c) + "=if(0," + second + ",8)");
+            House.due("both not looked at", h.cellAt(cell(c)) + h.cellAt(second), "ERROR 1ERROR 1");
+        }
+    }
+
     // "or the rows of a predicate that it reads are CHANGED"
     private static void workedByRows() {
         House h = new House();
@@ -611,6 +642,21 @@ public final class EdgesOfSheetTest extends Marks {
         dueWorked(h, "not CHANGED", 3, 1, 2, 2, 1, 1);
         h.round("+e(1).");
         dueWorked(h, "e and p", 4, 2, 2, 3, 1, 1);
+    }
+
+    private static void workedByEachWord() {
+        String[] formulas = {"count(e)", "sum(e,1)", "least(e,1)", "most(e,1)", "1+count(e)", "if(0,most(e,1),2)", "if(least(e,1),1,2)"};
+        for (String formula : formulas) {
+            House h = new House();
+            h.program("input f/1. input e/1.");
+            tell(h, "A1=" + formula);
+            h.round("+f(1).");
+            House.due(formula + ": another predicate", h.worked("A1"), 1);
+            h.round("+e(1).");
+            House.due(formula + ": its rows", h.worked("A1"), 2);
+            h.start("input f/1. input e/1.", "");
+            House.due(formula + ": the EDITION", h.worked("A1"), 3);
+        }
     }
 
     // "or the EDITION is new and it reads a NAME"

@@ -12,6 +12,7 @@ public final class EdgesOfTextsTest extends Marks {
         blanks();
         remarks();
         fullTape();
+        bytesBehindTheEnd();
         placesAtTheEnd();
         numbersInBounds();
         numbersWithA0Ahead();
@@ -164,6 +165,26 @@ public final class EdgesOfTextsTest extends Marks {
         House.due("a sum of 1498 numbers", h.program("p(1" + "+1".repeat(1497) + ")."), 1);
         h.x.round();
         House.due("it is worked out", h.rows(0), "1498");
+    }
+
+    // "The tape has its first n bytes alone": what was fed behind them is no part of a TOKEN.
+    private static void bytesBehindTheEnd() {
+        String[][] cells = {{"A1=1", "0"}, {"A1=1", "000000000000"}, {"A1=B1", "2"}, {"A1=B1", "b"}, {"A1=abc", "d"}, {"A1=abcdefgh", "i"}, {"A1=", "1"}, {"A1=1", "+"}};
+        for (String[] one : cells) {
+            House h = new House();
+            h.feed(one[0] + one[1]);
+            h.x.end(one[0].length());
+            House.due("cell() of " + one[0] + " with " + one[1] + " behind its end", h.x.cell(), 0);
+            h.x.round();
+            House.due("its VALUE", h.x.sheet(0, 0, 1), one[0].equals("A1=1") ? 1 : one[0].startsWith("A1=a") ? House.value(one[0].substring(3)) : 0);
+        }
+        String[][] wrong = {{"p(1):", "-", "4"}, {"p(-", "1", "2"}, {"p(1):-1!", "=", "7"}, {"p(1):-1<", "=", "8"}, {"p(0", "1", "3"}, {"inpu", "t", "4"}, {"p(1)", ".", "4"}};
+        for (String[] one : wrong) {
+            House h = new House();
+            h.feed(one[0] + one[1]);
+            h.x.end(one[0].length());
+            House.due("program() of " + one[0] + " with " + one[1] + " behind its end", h.x.program(), -1 - Integer.parseInt(one[2]));
+        }
     }
 
     // "of the first byte (from 0 on; the length at its end) with which, from the left, it can't go on to be right; of a TOKEN that can't stand its first byte"
@@ -326,10 +347,10 @@ public final class EdgesOfTextsTest extends Marks {
             wrongCell("A1=count(" + LONG_NAME + "^" + more + ")");
             wrongCell("A1=sum(" + LONG_NAME + "^" + more + ",1)");
         }
-        // The 12 signs of a NAME count, all of them.
+        // The 12 signs of a NAME count, all of them, and where they stand.
         House h = new House();
-        h.start(LONG_NAME + "(1). abcdefghijkm(2). abcdefghijk(3).", "");
-        House.due("three NAMES", h.x.count(2), 3);
+        h.start(LONG_NAME + "(1). abcdefghijkm(2). abcdefghijk(3). a9(1). a_(1). a0(1). az(1). ab(1). ba(1). a(1). aa(1). z(1). z0(1).", "");
+        House.due("thirteen NAMES", h.x.count(2), 13);
         for (String none : new String[] {"^A(1).", "^1a(1).", "^_a(1).", "a^A(1).", "a^-b(1)."}) {
             wrongProgram(none);
             wrongProgram("p(1). " + none);
@@ -362,6 +383,11 @@ public final class EdgesOfTextsTest extends Marks {
         rightQuery(h, "f(Abcdefgh,Abcdefgh).", 0);
         rightQuery(h, "f(AB,Ab).", 1);
         rightQuery(h, "f(A,A1).", 1);
+        rightQuery(h, "f(AZ,Aa).", 1);
+        rightQuery(h, "f(Az,A0).", 1);
+        rightQuery(h, "f(AB,BA).", 1);
+        rightQuery(h, "f(A9,AA).", 1);
+        rightQuery(h, "f(A,AA).", 1);
         // Where no VARIABLE can stand it is WRONG at its first byte, whatever its length.
         wrongProgram("^Abcdefghi.");
         wrongProgram("input ^Abcdefghi/1.");
@@ -503,6 +529,10 @@ public final class EdgesOfTextsTest extends Marks {
             // One letter more, or less, is a NAME.
             rightProgram(word + "s(1). output " + word + "s. q(1):-" + word + "s(1),not " + word + "s(2).", 2);
             rightProgram(word.substring(0, word.length() - 1) + "(1).", 1);
+        }
+        // Another letter anywhere makes it a NAME.
+        for (String name : new String[] {"jnput", "inpus", "putput", "outpux", "hey", "kex", "kay", "dot", "nor", "nut", "mount", "counr", "gum", "sun", "som", "beast", "leasu", "host", "mosu"}) {
+            rightProgram(name + "(" + name + "). output " + name + ".", 1);
         }
         wrongProgram("input^(1).");
         wrongProgram("output^(1).");

@@ -2,8 +2,10 @@
 public final class EdgesOfWhyTest extends Marks {
     public static void main(String[] args) {
         rankOfAnInput();
+        ofTheLineOneIsAt();
         rankAtLeastOne();
         ranksOfARing();
+        ranksWithoutChanges();
         ranksOfTwoOwnRows();
         ranksOfAMemberOfTheRing();
         ranksOfOtherRings();
@@ -57,6 +59,19 @@ public final class EdgesOfWhyTest extends Marks {
         House.due("of another one", why(h, 1), "1:0(0) 1:0(1)");
     }
 
+    // RANK and REASON are of the line's FACTS and program, whatever another line did latest.
+    private static void ofTheLineOneIsAt() {
+        House h = of("input e/1. p(X):-e(X),X>1. p(X):-e(X).", "+e(1). +e(2).");
+        h.x.line(1);
+        h.start("p(1). q(X):-p(X). p(2).", "");
+        House.due("at line 1", why(h, 0), "1:0() 1:2()");
+        h.x.line(0);
+        House.due("at line 0", why(h, 1), "1:1(0) 1:0(1)");
+        h.start("input e/1. p(X):-e(X).", "");
+        h.x.back(1);
+        House.due("behind back()", why(h, 1), "1:1(0) 1:0(1)");
+    }
+
     // "and at least 1"
     private static void rankAtLeastOne() {
         House.due("without LITERALS", why(of("p(1).", ""), 0), "1:0()");
@@ -75,6 +90,18 @@ public final class EdgesOfWhyTest extends Marks {
         House.due("a shorter way", why(h, 1), "1:0(0) 2:1(0,2) 1:0(1) 1:0(2) 2:1(3,3) 1:0(3)");
         h.round("-e(1,4). -e(2,3).");
         House.due("and none", why(h, 1), "1:0(0) 1:0(1)");
+    }
+
+    // Rows may be the same as ahead while RANKS are others, those of the first or the last row alone.
+    private static void ranksWithoutChanges() {
+        House h = of("input f/1. p(5). p(1):-p(5). p(9):-p(5). p(X):-f(X).", "");
+        House.due("ahead", why(h, 1), "2:1(1) 1:0() 2:2(1)");
+        h.round("+f(1).");
+        House.due("the first row", why(h, 1), "1:3(0) 1:0() 2:2(1)");
+        h.round("+f(9). -f(1).");
+        House.due("the last row, and the first one again", why(h, 1), "2:1(1) 1:0() 1:3(0)");
+        h.round("-f(9).");
+        House.due("as at first", why(h, 1), "2:1(1) 1:0() 2:2(1)");
     }
 
     // All rows of its own RING must be lower: the greater one of two counts.
@@ -174,6 +201,11 @@ public final class EdgesOfWhyTest extends Marks {
         House.due("not by what is not lower", why(h, 0), "3:2(1,1) 2:1(2) 1:0()");
         House g = of("input e/1. p(X,1):-e(X). p(0,X):-p(_,X). p(X,2):-p(X,_),e(X).", "+e(3). +e(4).");
         // p: 0,1 0,2 3,1 3,2 4,1 4,2
+        // Of p(1,_) the first row is p(1,0), at RANK 3: it can't be what p(0,0) at RANK 2 comes by, p(1,5) is.
+        House k = of("p(1,5). p(0,0):-p(1,_). p(1,0):-p(0,0).", "");
+        House.due("a row that is not lower is passed over", why(k, 0), "2:1(2) 3:2(0) 1:0()");
+        House l = of("p(1,5). p(0,0):-p(X,_),X>0. p(1,0):-p(0,0).", "");
+        House.due("it hides none that is", why(l, 0), "2:1(2) 3:2(0) 1:0()");
         House.due("each of its RING", why(g, 1), "2:1(2) 3:1(3) 1:0(0) 2:2(2,0) 1:0(1) 2:2(4,1)");
     }
 
@@ -193,6 +225,10 @@ public final class EdgesOfWhyTest extends Marks {
         for (int what = 1; what <= 4; what++) {
             House.due("reason(1, 0, " + what + ")", h.x.reason(1, 0, what), NONE);
         }
+        House.due("least of numbers above 0", why(of("p(least(X)):-q(X). q(5). q(7).", ""), 0), "1:0()");
+        House.due("most of numbers below 0", why(of("p(most(X)):-q(X). q(-5). q(-7).", ""), 0), "1:0()");
+        House.due("of a group without a WAY", why(of("p(sum(X)):-q(X),X>0. p(0). p(count()):-q(X),X>0. q(0).", ""), 0), "1:1()");
+        House.due("of words alone", why(of("p(sum(X)):-q(X). p(0). q(a).", ""), 0), "1:1()");
         House deep = of("q(1). q(X+1):-q(X),X<5. p(count()):-q(X).", "");
         House.due("RANK 1 whatever it reads", why(deep, 1), "1:2()");
     }
