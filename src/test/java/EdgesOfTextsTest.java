@@ -762,6 +762,14 @@ public final class EdgesOfTextsTest extends Marks {
         rightProgram("q(1). p(1):-q(1),q(1),q(1),q=1.", 2);
         wrongProgram("q(1). p(1):-q(1),q(1),q(1),q^.");
         wrongProgram("q(1). p(1):-q(1),q(1),q(1),q^");
+        // One that can't be a VALUE is WRONG at what is behind it, here too: without a ( it is no ATOM.
+        for (String none : new String[] {"a1", "a_", NINE_LETTERS, LONG_NAME}) {
+            wrongProgram("q(1). p(1):-q(1),q(1),q(1),^" + none + "(1).");
+            wrongProgram("q(1). p(1):-q(1),q(1),q(1),^" + none + " (");
+            wrongProgram("q(1). p(1):-q(1),q(1),q(1)," + none + "^=1.");
+            wrongProgram("q(1). p(1):-q(1),q(1),q(1)," + none + " ^.");
+            wrongProgram("q(1). p(1):-q(1),q(1),q(1)," + none + "^");
+        }
         // Each rule has its own three.
         rightProgram("q(1)." + "p(1):-q(1),q(1),q(1).".repeat(23), 24);
     }
